@@ -9,6 +9,7 @@ public final class LevelsTest {
         unsureTransistors(check);
         blockedWays(check);
         ringsOfWays(check);
+        longWays(check);
         selfJoined(check);
         groups(check);
         conducting(check);
@@ -136,13 +137,26 @@ public final class LevelsTest {
         Check.setAll(x, "000");
         check.due("a firm ring", Check.levels(x, 0), "1 0 1");
         check.due("holds", x.step(), 0);
-        SwitchLevels onward = Check.loaded("i a;d a a b;d a c b;d a c d;d a e d;d a e f;d a g f;d a g h;d a i h");
-        setFirstTo1(onward);
-        check.due("all follow at once", onward.step(), 8);
-        check.due("to the end of the way", Check.states(onward), "111111111");
-        SwitchLevels back = Check.loaded("i a;d a h i;d a g h;d a f g;d a e f;d a d e;d a c d;d a b c;d a a b");
-        setFirstTo1(back);
-        check.due("told from behind as well", back.step(), 8);
+    }
+
+    /** A way through all 24 nodes, its transistors told from either end. */
+    private static void longWays(Check check) {
+        for (int turn = 0; turn < 2; turn++) {
+            StringBuilder lines = new StringBuilder("i a");
+            for (int i = 0; i < 24; i++) {
+                lines.append(";s ").append((char) ('a' + i)).append(" 1");
+            }
+            for (int i = 0; i < 23; i++) {
+                char from = (char) ('a' + (turn == 0 ? i : 22 - i));
+                lines.append(";d a ").append(from).append(' ').append((char) (from + 1)).append(" 3");
+            }
+            SwitchLevels x = Check.loaded(lines.toString());
+            setFirstTo1(x);
+            check.due("the end of a long way", Check.levels(x, 23), "6 6 0");
+            check.due("the group of its end", x.group(23), 1);
+            check.due("all follow at once", x.step(), 23);
+            check.due("to the end of it", Check.states(x), "1".repeat(24));
+        }
     }
 
     private static void selfJoined(Check check) {

@@ -11,6 +11,7 @@ public final class StepsTest {
         settlingAtTheLimit(check);
         settlingRing(check);
         dampedUnknownStays(check);
+        longDoubt(check);
         statesOfNone(check);
         manyChanges(check);
         wrongChanges(check);
@@ -113,6 +114,22 @@ public final class StepsTest {
         check.due("one change", Check.changes(x), "1:3=1");
         check.due("without the limit's doubt c goes on", x.step(), 1);
         check.due("c is known", x.state(4), 0);
+    }
+
+    /** Doubt goes down a chain of 22 holders, one a step, long beyond the limit. */
+    private static void longDoubt(Check check) {
+        StringBuilder lines = new StringBuilder("i 1");
+        for (int i = 0; i < 22; i++) {
+            lines.append(";n ").append((char) ('a' + i)).append(" 1 ").append((char) ('b' + i));
+        }
+        SwitchLevels x = Check.loaded(lines.toString());
+        check.due("all nodes in use", x.nodes(), 24);
+        Check.setAll(x, "1" + "0".repeat(23));
+        x.limit(1);
+        check.due("nothing moves", x.settle(), 1);
+        x.set(1, 2);
+        check.due("one step, 21 beyond the limit, and one", x.settle(), 23);
+        check.due("all are in doubt", Check.states(x), "1" + "2".repeat(23));
     }
 
     private static void statesOfNone(Check check) {
