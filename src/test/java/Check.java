@@ -2,13 +2,15 @@
 final class Check {
     private int wrong = 0;
     private int asked = 0;
+    private String sentence = "";
+
+    /** From here on a wrong answer is told with the sentence of the document that it breaks. */
+    void sentence(String where, String words) {
+        sentence = where + ", \"" + words + "\": ";
+    }
 
     void due(String what, long got, long want) {
-        asked++;
-        if (got != want) {
-            wrong++;
-            System.out.println(what + ": answered " + got + ", due is " + want);
-        }
+        due(what, Long.toString(got), Long.toString(want));
     }
 
     void due(String what, boolean got, boolean want) {
@@ -20,7 +22,7 @@ final class Check {
         asked++;
         if (!got.equals(want)) {
             wrong++;
-            System.out.println(what + ": answered " + got + ", due is " + want);
+            System.out.println(sentence + what + ": answered " + got + ", due is " + want);
         }
     }
 
@@ -76,7 +78,8 @@ final class Check {
 
     static String states(SwitchLevels x) {
         StringBuilder all = new StringBuilder();
-        for (int n = 0; n < x.nodes(); n++) {
+        int count = x.nodes();
+        for (int n = 0; n < count; n++) {
             all.append(x.state(n));
         }
         return all.toString();
@@ -89,7 +92,8 @@ final class Check {
 
     static String groups(SwitchLevels x) {
         StringBuilder all = new StringBuilder();
-        for (int n = 0; n < x.nodes(); n++) {
+        int count = x.nodes();
+        for (int n = 0; n < count; n++) {
             all.append(n == 0 ? "" : " ").append(x.group(n));
         }
         return all.toString();
@@ -98,10 +102,34 @@ final class Check {
     /** The changes from the latest one on, each as step:node=state. */
     static String changes(SwitchLevels x) {
         StringBuilder all = new StringBuilder();
-        for (int k = 0; k < 32 && x.change(k) != SwitchLevels.NONE; k++) {
-            int c = x.change(k);
-            all.append(k == 0 ? "" : " ").append(c / 128).append(':').append(c % 128 / 4).append('=').append(c % 4);
+        int c = x.change(0);
+        for (int k = 1; k <= 32 && c != SwitchLevels.NONE; k++) {
+            all.append(k == 1 ? "" : " ").append(c / 128).append(':').append(c % 128 / 4).append('=').append(c % 4);
+            c = x.change(k);
         }
         return all.toString();
+    }
+
+    /** How many characters the text still takes; it is full then. */
+    static int room(SwitchLevels x) {
+        int taken = 0;
+        while (taken <= 480 && x.write(pack("        "))) {
+            taken += 8;
+        }
+        while (taken <= 480 && x.write(pack(" "))) {
+            taken++;
+        }
+        return taken;
+    }
+
+    /** A chain 0, a, b, .. of holders behind a leading 1: a set to 1 brings the others to 1, one in each step. */
+    static SwitchLevels fuse(int stages) {
+        StringBuilder lines = new StringBuilder("i 1");
+        for (int i = 0; i < stages; i++) {
+            lines.append(";n ").append((char) ('a' + i)).append(" 1 ").append((char) ('b' + i));
+        }
+        SwitchLevels x = loaded(lines.toString());
+        setAll(x, "11" + "0".repeat(stages));
+        return x;
     }
 }

@@ -149,7 +149,8 @@ public final class StepsTest {
         Check.setAll(x, "1000");
         for (int s = 1; s <= 40; s++) {
             x.step();
-            for (int k = 0; k < 32; k++) {
+            // An object is good for 512 calls, so not every step can be asked about.
+            for (int k = 0; k < 32 && (s == 1 || s % 8 <= 1); k++) {
                 int at = s - k / 2;
                 int want = at < 1 ? -1 : 128 * at + 4 * (3 - k % 2) + at % 2;
                 check.due("step " + s + ", change " + k, x.change(k), want);
