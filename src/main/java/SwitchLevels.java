@@ -635,6 +635,7 @@ public final class SwitchLevels {
     /** The latest changes; older ones can't be asked for, so their places are used again. */
     private static final class Changes {
         private final int[] rows = new int[KEPT_CHANGES];
+        private int next = 0;
         private int count = 0;
 
         void clear() {
@@ -642,15 +643,16 @@ public final class SwitchLevels {
         }
 
         void note(int stepNumber, int n, int newState) {
-            rows[count % KEPT_CHANGES] = 128 * stepNumber + 4 * n + newState;
-            count++;
+            rows[next] = 128 * stepNumber + 4 * n + newState;
+            next = (next + 1) % KEPT_CHANGES;
+            count = Math.min(count + 1, KEPT_CHANGES);
         }
 
         int fromLatest(int k) {
-            if (k < 0 || k >= KEPT_CHANGES || k >= count) {
+            if (k < 0 || k >= count) {
                 return NONE;
             }
-            return rows[(count - 1 - k) % KEPT_CHANGES];
+            return rows[(next + KEPT_CHANGES - 1 - k) % KEPT_CHANGES];
         }
     }
 }

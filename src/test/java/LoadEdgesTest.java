@@ -17,7 +17,9 @@ public final class LoadEdgesTest {
         test.oneNameMore();
         test.severalNamesMore();
         test.allFull();
+        test.fullAtWork();
         test.inThePlaceOfTheOneThatWas();
+        test.noTransistorsOfTheOneThatWas();
         test.howManyTransistors();
         test.allStatesAre2();
         test.noNodeIsStuck();
@@ -27,6 +29,7 @@ public final class LoadEdgesTest {
         test.badLineNumbers();
         test.badLineChangesNothing();
         test.loadLeavesTheText();
+        test.loadLeavesTheLimit();
         test.howManyNodes();
         test.nodeOfAName();
         test.noneIfNotKnown();
@@ -181,6 +184,48 @@ public final class LoadEdgesTest {
         check.due("as much again", Check.loadText(x, full()), 30);
         check.due("a smaller one after it", Check.loadText(x, "i a"), 0);
         check.due("and as much again", Check.loadText(x, full()), 30);
+    }
+
+    /** 24 nodes and 30 transistors, all on: a row from an input to the last node, told from its far end, and more. */
+    private void fullAtWork() {
+        check.sentence("Terms", "There are up to 24 NODES .. and up to 30 TRANSISTORS");
+        StringBuilder lines = new StringBuilder("i a;s b 2;");
+        for (char c = 'c'; c < 'y'; c++) {
+            lines.append("s ").append(c).append(" 1;");
+        }
+        for (char c = 'w'; c >= 'a'; c--) {
+            lines.append("d a ").append(c).append(' ').append((char) (c + 1)).append(" 3;");
+        }
+        lines.append("n x x b 1;".repeat(6)).append("d x b x 1");
+        SwitchLevels x = Check.loaded(lines.toString());
+        check.due("as many as there may be", x.conducts(29) + " " + x.conducts(30), "1 -1");
+        for (int state = 0; state < 2; state++) {
+            Check.setAll(x, state + String.valueOf(1 - state).repeat(23));
+            String way = state == 0 ? "6 0 6" : "6 6 0";
+            check.due("levels at the near end", Check.levels(x, 1), way);
+            check.due("levels at the far end", Check.levels(x, 23), way);
+            check.due("the group of the far end", x.group(23), 1);
+            check.due("all follow in one step", x.step(), 23);
+            check.due("they do", Check.states(x), String.valueOf(state).repeat(24));
+            check.due("settled", x.settle(), 1);
+        }
+        x.jam(29, 0);
+        x.jam(22, 0);
+        check.due("parted from the input", Check.levels(x, 23), "2 2 0");
+    }
+
+    private void noTransistorsOfTheOneThatWas() {
+        check.sentence("Promise 4", "in the place of the one that was");
+        SwitchLevels x = new SwitchLevels();
+        String more = "i v\nd v v a\nd v v b\nd v a b";
+        Check.loadText(x, more);
+        Check.loadText(x, more);
+        check.due("fewer transistors", Check.loadText(x, "i v\nd v v a\ns b 1"), 1);
+        x.set(0, 1);
+        check.due("b is not joined to v", Check.levels(x, 2), "1 1 1");
+        check.due("nor to a", x.group(2), 2);
+        check.due("only a follows", x.step(), 1);
+        check.due("b does not", Check.states(x), "112");
     }
 
     private void inThePlaceOfTheOneThatWas() {
@@ -340,6 +385,22 @@ public final class LoadEdgesTest {
         check.due("that stays", x.load(), -3);
         x.wipe();
         check.due("what is written counts when it is loaded", x.nodes(), 3);
+    }
+
+    private void loadLeavesTheLimit() {
+        check.sentence("Promise 11", "LIMIT becomes n");
+        SwitchLevels x = Check.fuse(3);
+        x.limit(1);
+        check.due("loaded again", x.load(), 3);
+        Check.setAll(x, "11000");
+        check.due("settled", x.settle(), 4);
+        check.due("with the limit that was told", Check.states(x), "11122");
+        SwitchLevels bad = Check.fuse(3);
+        bad.limit(1);
+        bad.write(Check.pack("\n?"));
+        check.due("a bad text", bad.load(), -5);
+        check.due("settled, then", bad.settle(), 4);
+        check.due("with the limit, then", Check.states(bad), "11122");
     }
 
     private void howManyNodes() {

@@ -14,7 +14,7 @@ final class Twins {
         this.history = history;
     }
 
-    /** A call that must answer false (or one that is asked for here to do so) and change nothing. */
+    /** The call must answer false and change nothing. */
     void refuse(String what, Predicate<SwitchLevels> call) {
         SwitchLevels tried = history.get();
         SwitchLevels left = history.get();
